@@ -160,4 +160,5 @@ final class TextsTest {
         Checks.told("card(0, 0) behind a fault", x, x.card(0, 0), 1);
         Checks.due("fault(0)", x.fault(0), 11);
         Checks.due("digest() behind fault(0)", x.digest(), before);
-    }}
+    }
+}
