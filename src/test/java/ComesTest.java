@@ -27,6 +27,7 @@ final class ComesTest {
             for (int call : new int[] {0, 1, 2, 99}) {
                 Checks.due(letter + " hears 12", one(letter).hears(0, 12, 0, call), 4096);
                 Checks.due(letter + " hears 1", one(letter).hears(0, 1, 9, call), 2);
+                Checks.due(letter + " hears 2", one(letter).hears(0, 2, 12, call), 4);
             }
         }
         CalledNumbers deaf = one('d');
@@ -36,6 +37,7 @@ final class ComesTest {
             boolean nothing = call % 3 == 2;
             Checks.due("d hears 5 at " + call, deaf.hears(0, 5, 4, call), nothing ? 0 : 32);
             Checks.due("l hears 4 at " + call, late.hears(0, 5, 4, call), 16);
+            Checks.due("l hears 12 at " + call, late.hears(0, 5, 12, call), 4096);
             Checks.due("l hears nothing at " + call, late.hears(0, 5, 0, call), 0);
             Checks.due("s hears 5, 6 at " + call, sly.hears(0, 5, 4, call), nothing ? 0 : 96);
             Checks.due("s hears 12, 1 at " + call, sly.hears(0, 12, 0, call), nothing ? 0 : 4098);
@@ -107,6 +109,8 @@ final class ComesTest {
         for (int number : new int[] {0, 13, -1, 33, Integer.MIN_VALUE, Integer.MAX_VALUE}) {
             Checks.fill(x, 0, 1, 1, number);
             Checks.refused("run with " + number, x, x.run(0), UNLIKE);
+            Checks.fill(x, 0, number, 1);
+            Checks.refused("run from " + number, x, x.run(0), UNLIKE);
         }
         Checks.fill(x, 0, 1, 2);
         x.run(0);
@@ -140,6 +144,21 @@ final class ComesTest {
         }
         Checks.due("safe(), the bag is empty", x.safe(), 0);
         Checks.due("asked(), the bag is empty", x.asked(), 0);
+        x.undo(0);
+        x.call(2);
+        x.call(3);
+        x.rub(0, 3);
+        x.rub(0, 4);
+        x.rub(1, 3);
+        x.rub(1, 4);
+        // By 1 two win, by 6 and 9 one each.
+        Checks.due("safe(), one or two", x.safe(), Checks.bits(4, 5, 7, 8, 10, 11, 12));
+        Checks.due("asked(), two by 1", x.asked(), Checks.bits(1));
+        CalledNumbers y = Checks.hallOf("p101112010203");
+        y.call(10);
+        y.call(11);
+        Checks.due("safe(), the last one wins", y.safe(), Checks.bits(1, 2, 3, 4, 5, 6, 7, 8, 9));
+        Checks.due("asked(), the last one wins", y.asked(), Checks.bits(12));
     }
 
     private static void fewestOf(CalledNumbers x, int i, int... numbers) {
@@ -155,6 +174,10 @@ final class ComesTest {
         fewestOf(x, 0, 1, 2, 3);
         fewestOf(x, 1, 2, 4, 6);
         fewestOf(x, 2, 1, 2);
+        x.call(10);
+        x.call(11);
+        fewestOf(x, 0, 12);
+        x.undo(0);
         x.call(12);
         x.call(11);
         fewestOf(x, 0, 10);
@@ -215,6 +238,10 @@ final class ComesTest {
         mostOf(x, 1, 0, 1);
         mostOf(x, 2, 0, 1, 2);
         mostOf(x, 3, 1, 1, 2, 3);
+        x.call(10);
+        x.call(11);
+        mostOf(x, 1, 1, 12);
+        x.undo(0);
         x.call(12);
         x.call(11);
         mostOf(x, 1, 1, 10);

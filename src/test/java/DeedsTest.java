@@ -14,6 +14,7 @@ final class DeedsTest {
         rub();
         full();
         undo();
+        undoneByHand();
         undoesWins();
         keepAndOn();
         keptRefused();
@@ -118,7 +119,10 @@ final class DeedsTest {
         Checks.due("call, the 41st, not in the bag", x.call(1), CalledNumbers.STATE);
         Checks.due("call, the 41st, bad", x.call(0), CalledNumbers.BAD);
         Checks.due("digest()", x.digest(), before);
+        Checks.due("keep, 40 deeds", x.keep(0), 40);
         Checks.due("undo(39)", x.undo(39), 1);
+        Checks.due("on, 40 deeds", x.on(0), 40);
+        Checks.due("undo(39), again", x.undo(39), 1);
         Checks.due("call, the 40th", x.call(2), 0);
     }
 
@@ -142,6 +146,24 @@ final class DeedsTest {
         Checks.due("digest() behind 2", x.digest(), digests[2]);
         Checks.due("undo(0)", x.undo(0), 2);
         Checks.due("digest() behind 0", x.digest(), digests[0]);
+    }
+
+    private static void undoneByHand() {
+        CalledNumbers x = Checks.hallOf(FOUR);
+        for (int i = 0; i < 4; i++) {
+            x.rub(i, 0);
+            x.rub(i, 5 - i);
+        }
+        x.rub(3, 1);
+        Checks.due("undo(8)", x.undo(8), 1);
+        for (int i = 0; i < 4; i++) {
+            Checks.told("places of " + i, x, x.player(i, 1), 1 | 1 << 5 - i);
+        }
+        Checks.due("no calls", x.count(1), 0);
+        CalledNumbers none = new CalledNumbers();
+        Checks.due("no players, undo(0)", none.undo(0), 0);
+        Checks.due("no players, undo(1)", none.undo(1), CalledNumbers.BAD);
+        Checks.due("no players, the bag", none.count(3), 0);
     }
 
     private static void undoesWins() {

@@ -7,6 +7,7 @@ final class DuelTest {
         noTurns();
         turns();
         winning();
+        whoBegins();
         shortBag();
         refused();
         Checks.end();
@@ -59,6 +60,20 @@ final class DuelTest {
         x.call(3);
         duelOf(x, 0, 1, 1, 1);
         duelOf(x, 1, 0, 1, -1);
+    }
+
+    private static void whoBegins() {
+        CalledNumbers x = Checks.hallOf("l" + LOW + "p" + HIGH);
+        // The late one hears at the second call what the first one called.
+        duelOf(x, 0, 1, 1, 0);
+        duelOf(x, 1, 0, 1, 1);
+        CalledNumbers y = Checks.hallOf("p" + LOW + "p" + HIGH);
+        for (int number = 2; number <= 12; number++) {
+            y.call(number);
+        }
+        // 1 alone is left.
+        duelOf(y, 0, 1, 0, -1);
+        duelOf(y, 0, 1, 2, 0);
     }
 
     private static void shortBag() {

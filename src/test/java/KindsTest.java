@@ -12,6 +12,7 @@ final class KindsTest {
         kindsRefused();
         next();
         nextIsNow();
+        nextAtTheEnd();
         nextNone();
         nextRefused();
         Checks.end();
@@ -157,6 +158,22 @@ final class KindsTest {
         x.call(12);
         // KINDS 0, 1, 3 are left by 2; they are as one by each NUMBER.
         nextOf(x, 2, 3, 2, 2);
+    }
+
+    private static void nextAtTheEnd() {
+        CalledNumbers x = Checks.hallOf("p" + CARD);
+        for (int place = 0; place < 6; place++) {
+            x.rub(0, place);
+        }
+        nextOf(x, 1, 6);
+        x.rub(0, 0);
+        // By 12 the sly one alone marks 1; by 1 the late one alone does not.
+        nextOf(x, 1, 5);
+        for (int number = 1; number <= 11; number++) {
+            x.call(number);
+        }
+        // 12 alone is left; it is call 11, so that the sly one hears nothing; all is MARKED.
+        nextOf(x, 12, 6);
     }
 
     private static void nextNone() {

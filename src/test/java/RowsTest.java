@@ -157,12 +157,17 @@ final class RowsTest {
         Checks.told("mean of great ones", x, x.mean(0), Integer.MAX_VALUE);
         Checks.fill(x, 0, Integer.MIN_VALUE, Integer.MIN_VALUE);
         Checks.told("mean of least ones", x, x.mean(0), Integer.MIN_VALUE);
+        Checks.fill(x, 0, 9);
+        Checks.told("mean of one", x, x.mean(0), 9);
+        x.row(0, 40);
+        x.lay(0, 39, 80);
+        Checks.told("mean of forty", x, x.mean(0), 2);
         x.row(0, 0);
         Checks.refused("mean of none", x, x.mean(0), NOUGHT);
         Checks.refused("mean of a missing one", x, x.mean(1), NOTHING);
         for (int r : NO_ROWS) {
             Checks.due("mean(" + r + ")", x.mean(r), CalledNumbers.BAD);
         }
-        Checks.due("asked() behind refusals", x.asked(), Integer.MIN_VALUE);
+        Checks.due("asked() behind refusals", x.asked(), 2);
     }
 }

@@ -105,6 +105,8 @@ final class TextsTest {
         faultOf("p0102030405", 11);
         faultOf("p" + CARD + " w", 15);
         faultOf("p" + CARD + " w12", 17);
+        faultOf("p" + CARD + "p" + CARD + "p" + CARD + " ".repeat(16) + "p0102", 60);
+        faultOf("p" + CARD + "p" + CARD + "p" + CARD + " ".repeat(15) + "p01020", 60);
     }
 
     private static void faultRefused() {
@@ -143,6 +145,17 @@ final class TextsTest {
         Checks.refused("on(2), anew", x, x.on(2), NOTHING);
         Checks.due("player(1, 0), anew", x.player(1, 0), CalledNumbers.BAD);
         Checks.told("player(0, 1), anew", x, x.player(0, 1), 0);
+        x.call(1);
+        x.call(2);
+        x.call(3);
+        Checks.due("those who are gone don't win", x.count(5), 0);
+        Checks.write(x, 0, "s" + CARD);
+        x.hall(0);
+        Checks.write(x, 0, "s010207080912");
+        x.hall(0);
+        Checks.due("another card", x.mark(0, 5), 4);
+        x.call(3);
+        Checks.told("3 is no more on it", x, x.player(0, 1), 0);
     }
 
     private static void hallRefused() {

@@ -95,6 +95,10 @@ final class ToldTest {
         countsAre(x, 4, 1, 1, Checks.BAG & ~Checks.bits(12), 12, 0, 1, 2, 2, 2, 2, 1);
         CalledNumbers y = Checks.hallOf("p" + CARD + "h" + CARD);
         countsAre(y, 2, 0, 0, Checks.BAG, 0, 0, 0, 0, 0, 0, 1, 0);
+        CalledNumbers z = Checks.hallOf("d" + CARD);
+        countsAre(z, 1, 0, 0, Checks.BAG, 0, 0, 0, 0, 1, 0, 1, 0);
+        CalledNumbers w = Checks.hallOf("w" + CARD);
+        countsAre(w, 1, 0, 0, Checks.BAG, 0, 0, 0, 1, 0, 0, 1, 0);
     }
 
     private static void countRefused() {
