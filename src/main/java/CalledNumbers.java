@@ -448,21 +448,11 @@ public final class CalledNumbers {
     // ---- 6 chances, lots
 
     public int odds(int i, int n) {
-        if (!isPlayer(i) || n < 0 || n > LOT_CALLS_MOST) {
-            return BAD;
-        }
-        int end = callsAhead(n);
-        tell(winsSum(i, 0, end), orders(end));
-        return 1;
+        return tellAhead(i, n, true);
     }
 
     public int mid(int i, int n) {
-        if (!isPlayer(i) || n < 0 || n > LOT_CALLS_MOST) {
-            return BAD;
-        }
-        int end = callsAhead(n);
-        tell(marksSum(i, 0, end), orders(end));
-        return 1;
+        return tellAhead(i, n, false);
     }
 
     public int lots(int n, int seed) {
@@ -830,6 +820,15 @@ public final class CalledNumbers {
 
     // ---- chances
 
+    private int tellAhead(int i, int n, boolean wins) {
+        if (!isPlayer(i) || n < 0 || n > LOT_CALLS_MOST) {
+            return BAD;
+        }
+        int end = callsAhead(n);
+        tell(sumAhead(i, wins, 0, end), orders(end));
+        return 1;
+    }
+
     /** In how many orders the next CALLS can come. */
     private long orders(int calls) {
         long all = 1;
@@ -840,33 +839,17 @@ public final class CalledNumbers {
         return all;
     }
 
-    /** In how many orders of the next CALLS a PLAYER has WON. */
-    private long winsSum(int i, int depth, int end) {
+    /** Over all orders of the next CALLS: in how many a PLAYER has WON, or else all its MARKS. */
+    private long sumAhead(int i, boolean wins, int depth, int end) {
         Hall here = aside[depth];
         if (depth >= end || depth >= AHEAD_MOST) {
-            return here.hasWon(i) ? 1 : 0;
+            return wins ? here.won >> i & 1 : Integer.bitCount(here.marks[i]);
         }
         long sum = 0;
         for (int number = 1; number <= NUMBERS; number++) {
             if (here.holds(number)) {
                 stepAhead(depth, number, 1 << i);
-                sum += winsSum(i, depth + 1, end);
-            }
-        }
-        return sum;
-    }
-
-    /** The MARKS of a PLAYER, over all orders of the next CALLS. */
-    private long marksSum(int i, int depth, int end) {
-        Hall here = aside[depth];
-        if (depth >= end || depth >= AHEAD_MOST) {
-            return Integer.bitCount(here.marks[i]);
-        }
-        long sum = 0;
-        for (int number = 1; number <= NUMBERS; number++) {
-            if (here.holds(number)) {
-                stepAhead(depth, number, 1 << i);
-                sum += marksSum(i, depth + 1, end);
+                sum += sumAhead(i, wins, depth + 1, end);
             }
         }
         return sum;

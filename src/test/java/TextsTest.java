@@ -130,7 +130,7 @@ final class TextsTest {
     }
 
     private static void hallAnew() {
-        CalledNumbers x = Checks.hallOf("p" + CARD + "w" + CARD);
+        CalledNumbers x = Checks.hallOf("w" + CARD + "p" + CARD);
         x.call(1);
         x.rub(1, 3);
         x.keep(0);
