@@ -925,7 +925,7 @@ public final class CalledNumbers {
 
     private static class Deaf extends Plain {
         int heard(int number, int ahead, int call) {
-            return callsTillDeaf(call) == 0 ? 0 : super.heard(number, ahead, call);
+            return call % 3 == 2 ? 0 : 1 << number;
         }
 
         final int callsTillDeaf(int call) {
