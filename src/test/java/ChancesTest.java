@@ -98,7 +98,7 @@ final class ChancesTest {
     }
 
     /** Does the lots of a seed by call() and rub(), with the number worked out another way. */
-    private static void byHand(CalledNumbers y, int players, int n, int seed) {
+    static void byHand(CalledNumbers y, int players, int n, int seed) {
         java.math.BigInteger lot = java.math.BigInteger.valueOf(seed);
         java.math.BigInteger modulus = java.math.BigInteger.TWO.pow(31).subtract(java.math.BigInteger.ONE);
         for (int k = 0; k < n; k++) {
