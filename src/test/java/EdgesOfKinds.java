@@ -267,6 +267,9 @@ final class EdgesOfKinds {
         // A late one hears at the second call what the first one called.
         duelIs(x, 3, 1, 1, 0);
         duelIs(x, 1, 3, 1, 1);
+        // At the fourth call, the second one's, it hears what the first one called at the third.
+        duelIs(x, 3, 1, 2, 0);
+        duelIs(x, 1, 3, 2, 1);
         Doc.says(28, "how many more PLACES are MARKED of PLAYER i than of another one, j, then");
         for (int place = 0; place < 6; place++) {
             x.rub(0, place);
@@ -300,6 +303,13 @@ final class EdgesOfKinds {
         y.call(10);
         // The second one has WON; the first one wins by 3, then one more of the second one is MARKED.
         duelIs(y, 0, 1, 1, -1);
+        CalledNumbers z = Checks.hallOf("p" + CARD + "p" + HIGH);
+        for (int number = 2; number <= 6; number++) {
+            z.call(number);
+        }
+        // 1 is the only one that is left to the first one.
+        duelIs(z, 0, 1, 1, 15);
+        duelIs(z, 0, 1, 2, 13);
     }
 
     private static void duelShort() {

@@ -17,47 +17,41 @@ final class EdgesOfLots {
         lotsRefused();
     }
 
-    private static void share(String what, CalledNumbers x, int answer, long upper, long lower) {
-        Checks.due(what, answer, 1);
-        Checks.due(what + ", upper()", x.upper(), upper);
-        Checks.due(what + ", lower()", x.lower(), lower);
-    }
-
     private static void odds() {
         Doc.says(29, "Chances that a PLAYER has WON behind them: 1.");
         CalledNumbers x = Checks.hallOf("p" + CARD + "d" + CARD + "l" + CARD + "s" + CARD);
         x.card(0, 5);
         long before = x.digest();
-        share("p behind 0", x, x.odds(0, 0), 0, 1);
-        share("p behind 2", x, x.odds(0, 2), 0, 1);
-        share("p behind 3", x, x.odds(0, 3), 1, 110);
-        share("d behind 3", x, x.odds(1, 3), 0, 1);
-        share("s behind 1", x, x.odds(3, 1), 0, 1);
+        Checks.share("p behind 0", x, x.odds(0, 0), 0, 1);
+        Checks.share("p behind 2", x, x.odds(0, 2), 0, 1);
+        Checks.share("p behind 3", x, x.odds(0, 3), 1, 110);
+        Checks.share("d behind 3", x, x.odds(1, 3), 0, 1);
+        Checks.share("s behind 1", x, x.odds(3, 1), 0, 1);
         // By 1 and 2, 1 and 3, 12 and 2, 4 and 5, 4 and 6, 3 and 5 of 66.
-        share("s behind 2", x, x.odds(3, 2), 1, 11);
+        Checks.share("s behind 2", x, x.odds(3, 2), 1, 11);
         Checks.due("digest() behind odds", x.digest(), before);
         Checks.due("asked() behind odds", x.asked(), 6);
         x.call(1);
         x.call(2);
-        share("p, by 3 of ten", x, x.odds(0, 1), 1, 10);
-        share("s has won", x, x.odds(3, 0), 1, 1);
-        share("s has won, whatever comes", x, x.odds(3, 3), 1, 1);
+        Checks.share("p, by 3 of ten", x, x.odds(0, 1), 1, 10);
+        Checks.share("s has won", x, x.odds(3, 0), 1, 1);
+        Checks.share("s has won, whatever comes", x, x.odds(3, 3), 1, 1);
         x.rub(0, 2);
-        share("p has it, but no call", x, x.odds(0, 0), 0, 1);
-        share("p has it, and wins by each", x, x.odds(0, 1), 1, 1);
+        Checks.share("p has it, but no call", x, x.odds(0, 0), 0, 1);
+        Checks.share("p has it, and wins by each", x, x.odds(0, 1), 1, 1);
         x.rub(0, 2);
         for (int number = 7; number <= 12; number++) {
             x.call(number);
         }
         // 3, 4, 5, 6 are left.
-        share("p, one of four", x, x.odds(0, 1), 1, 4);
-        share("p, two of four", x, x.odds(0, 2), 1, 2);
-        share("p, three of four", x, x.odds(0, 3), 1, 1);
+        Checks.share("p, one of four", x, x.odds(0, 1), 1, 4);
+        Checks.share("p, two of four", x, x.odds(0, 2), 1, 2);
+        Checks.share("p, three of four", x, x.odds(0, 3), 1, 1);
         for (int number = 3; number <= 6; number++) {
             x.call(number);
         }
-        share("l, the bag is empty", x, x.odds(2, 3), 0, 1);
-        share("p, the bag is empty", x, x.odds(0, 3), 1, 1);
+        Checks.share("l, the bag is empty", x, x.odds(2, 3), 0, 1);
+        Checks.share("p, the bag is empty", x, x.odds(0, 3), 1, 1);
     }
 
     private static void mid() {
@@ -69,27 +63,27 @@ final class EdgesOfLots {
         for (int i = 0; i < 3; i++) {
             for (int n = 0; n <= 3; n++) {
                 int upper = halves[i][n];
-                share("mid(" + i + ", " + n + ")", x, x.mid(i, n),
+                Checks.share("mid(" + i + ", " + n + ")", x, x.mid(i, n),
                     upper % 2 == 0 ? upper / 2 : upper, upper % 2 == 0 ? 1 : 2);
             }
         }
         // By 12 one, by 1 .. 5 two each, by 6 one.
-        share("s behind 1", x, x.mid(3, 1), 1, 1);
+        Checks.share("s behind 1", x, x.mid(3, 1), 1, 1);
         Checks.due("digest() behind mid", x.digest(), before);
         Checks.due("asked() behind mid", x.asked(), 6);
         x.rub(0, 0);
-        share("by hand", x, x.mid(0, 0), 1, 1);
-        share("by hand, and 5 of 12", x, x.mid(0, 1), 17, 12);
+        Checks.share("by hand", x, x.mid(0, 0), 1, 1);
+        Checks.share("by hand, and 5 of 12", x, x.mid(0, 1), 17, 12);
         for (int number = 1; number <= 11; number++) {
             x.call(number);
         }
-        share("12 is left", x, x.mid(0, 3), 6, 1);
+        Checks.share("12 is left", x, x.mid(0, 3), 6, 1);
         x.undo(11);
-        share("11 and 12 are left", x, x.mid(2, 1), 6, 1);
+        Checks.share("11 and 12 are left", x, x.mid(2, 1), 6, 1);
         x.call(11);
         x.call(12);
         for (int n = 0; n <= 3; n++) {
-            share("the bag is empty", x, x.mid(0, n), 6, 1);
+            Checks.share("the bag is empty", x, x.mid(0, n), 6, 1);
         }
     }
 

@@ -184,21 +184,15 @@ final class EdgesOfTerms {
         Checks.finds("not as many as due", x, 5, () -> x.kinds(0, 1));
     }
 
-    private static void share(String what, CalledNumbers x, int answer, long upper, long lower) {
-        Checks.due(what, answer, 1);
-        Checks.due(what + ", upper()", x.upper(), upper);
-        Checks.due(what + ", lower()", x.lower(), lower);
-    }
-
     private static void toldBySharesAndBits() {
         Doc.says(T, "Chances, means are told by upper(), lower(), in lowest terms, the lower number above 0 (0 by 1).");
         CalledNumbers x = Checks.hallOf("p" + CARD + "l" + CARD);
-        share("12 by 1320", x, x.odds(0, 3), 1, 110);
-        share("6 by 12", x, x.mid(0, 1), 1, 2);
-        share("132 by 132", x, x.mid(0, 2), 1, 1);
-        share("0 by 1320", x, x.odds(1, 3), 0, 1);
-        share("0 by 12", x, x.mid(1, 1), 0, 1);
-        share("0 by 1", x, x.mid(1, 0), 0, 1);
+        Checks.share("12 by 1320", x, x.odds(0, 3), 1, 110);
+        Checks.share("6 by 12", x, x.mid(0, 1), 1, 2);
+        Checks.share("132 by 132", x, x.mid(0, 2), 1, 1);
+        Checks.share("0 by 1320", x, x.odds(1, 3), 0, 1);
+        Checks.share("0 by 12", x, x.mid(1, 1), 0, 1);
+        Checks.share("0 by 1", x, x.mid(1, 0), 0, 1);
         Doc.says(T, "Sets (of PLAYERS, of KINDS, of NUMBERS: bits 1 .. 12, of PLACES of a CARD: bits 0 .. 5) "
             + "are told by bits.");
         CalledNumbers y = Checks.hallOf(("s" + CARD).repeat(4));
@@ -479,12 +473,7 @@ final class EdgesOfTerms {
 
     private static void hasAll(char kind) {
         for (int places = 0; places < 64; places++) {
-            CalledNumbers x = Checks.hallOf(kind + CARD);
-            for (int place = 0; place < 6; place++) {
-                if ((places >> place & 1) == 1) {
-                    x.rub(0, place);
-                }
-            }
+            CalledNumbers x = EdgesOfHalls.marked(kind, places);
             int has = has(kind, places) ? 1 : 0;
             Checks.told(kind + " with " + places + " has it", x, x.player(0, 3), has);
             Checks.due(kind + " with " + places + " wins by a call", x.call(8), has);
@@ -607,16 +596,16 @@ final class EdgesOfTerms {
         Checks.due("duel(0, 1, 1)", x.duel(0, 1, 1), 1);
         Doc.says(T, "---- 6 chances, lots (n (0 .. 3) CALLS by lot, each NUMBER in the bag as likely; "
             + "as many as there are).");
-        share("one of ten", x, x.odds(0, 1), 1, 10);
-        share("none", x, x.odds(0, 0), 0, 1);
+        Checks.share("one of ten", x, x.odds(0, 1), 1, 10);
+        Checks.share("none", x, x.odds(0, 0), 0, 1);
         for (int number = 6; number <= 12; number++) {
             x.call(number);
         }
-        share("by 3 of 3, 4, 5", x, x.odds(0, 1), 1, 3);
-        share("by all three", x, x.odds(0, 3), 1, 1);
+        Checks.share("by 3 of 3, 4, 5", x, x.odds(0, 1), 1, 3);
+        Checks.share("by all three", x, x.odds(0, 3), 1, 1);
         x.call(3);
         x.call(4);
-        share("5 alone is left", x, x.mid(0, 3), 6, 1);
+        Checks.share("5 alone is left", x, x.mid(0, 3), 6, 1);
         Checks.bad("odds(0, 4)", x, () -> x.odds(0, 4));
         Doc.says(T, "---- 7 what is told.");
         Checks.due("upper()", x.upper(), 6);
